@@ -48,8 +48,6 @@ public final class SermonScale {
         kept = newWeeks(MOST_KEPT);
         isKept = new boolean[MOST_KEPT];
         notes = new Notes();
-        undoable = 0;
-        nextPast = 0;
     }
 
     private static Week[] newWeeks(int many) {
@@ -98,7 +96,7 @@ public final class SermonScale {
         for (int k = 0; k < MOST_KEPT; k++) {
             isKept[k] = false;
         }
-        forgetPast();
+        undoable = 0;
     }
 
     public int part(int part, int what) {
@@ -205,15 +203,11 @@ public final class SermonScale {
         return undoable;
     }
 
+    /** The weeks of the past go round in their row: the ninth takes the place of the first. */
     private void rememberWeek() {
         past[nextPast].becomeLike(now);
         nextPast = (nextPast + 1) % MOST_UNDONE;
         undoable = Math.min(undoable + 1, MOST_UNDONE);
-    }
-
-    private void forgetPast() {
-        undoable = 0;
-        nextPast = 0;
     }
 
     public int keep(int k) {
@@ -233,7 +227,7 @@ public final class SermonScale {
             return NOT;
         }
         now.becomeLike(kept[k]);
-        forgetPast();
+        undoable = 0;
         return now.number;
     }
 
@@ -402,7 +396,7 @@ public final class SermonScale {
         return (part == 0 ? good : all) / divisor;
     }
 
-    /** Of ten to the number of people ways in all, how many have just these confess. */
+    /** In how many of all the ways, ten for each of the people, just these confess. */
     private int waysOfConfessing(int set, int q) {
         int ways = 1;
         for (int soul = 0; soul < parish.souls; soul++) {

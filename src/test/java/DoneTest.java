@@ -107,6 +107,9 @@ public final class DoneTest {
         C.due("no sins(1)", x.sins(1), 0);
         C.due("level Sundays", x.count(8), 1);
         C.due("Sunday 2", x.count(2), 2);
+        x.undo();
+        C.due("level Sundays undone", x.count(8), 0);
+        x.sunday();
         for (int i = 3; i <= 400; i++) {
             x.sunday();
         }

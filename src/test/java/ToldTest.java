@@ -65,6 +65,7 @@ public final class ToldTest {
         C.faultDue("kirkword 1 1", 0);
         C.faultDue("kir", 0);
         C.faultDue("kirks", 0);
+        C.faultDue("dirk", 0);
         C.faultDue("Kirk", 0);
         C.faultDue("part 3 4", 0);
         C.faultDue("kirk 3", 5);
@@ -144,6 +145,8 @@ public final class ToldTest {
         x.erase();
         Check.put(x, "kirk;soul 1;soul 1;soul 1;soul 1");
         C.due("fault() with kirk ahead", x.fault(), Check.NONE);
+        C.faultDue("kirk;" + eight + "thumb 1", Check.NONE);
+        C.faultDue("kirk;" + six + "thumb 1", Check.NONE);
     }
 
     private static void kirkDoesClauses() {
