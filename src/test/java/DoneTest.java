@@ -115,7 +115,6 @@ public final class DoneTest {
         }
         C.due("Sunday 400", x.count(2), 400);
         C.due("level Sundays of 400", x.count(8), 399);
-        // Beyond 512 calls nothing is promised, so Sunday 999 is out of reach of a due answer.
     }
 
     private static void undoing() {
